@@ -33,8 +33,7 @@ public final class PosterFitter {
     private final int[] text = new int[MAX_TEXT];
     private int textLength = 0;
     private final TextReader reader = new TextReader();
-    private final Bands bands = new Bands(state.canvas);
-    private final Search search = new Search(bands);
+    private final Search search = new Search();
 
     public PosterFitter() {
         for (int i = 0; i < MAX_HISTORY; i++) {
@@ -89,8 +88,8 @@ public final class PosterFitter {
         if (!isBand(row, rows) || !isIn(what, 0, 1)) {
             return BAD_VALUE;
         }
-        bands.learn(rows);
-        return what == 0 ? bands.lengthOf(row, rows) : bands.firstOf(row, rows);
+        search.bands.learn(state.canvas, rows);
+        return what == 0 ? search.bands.lengthOf(row, rows) : search.bands.firstOf(row, rows);
     }
 
     // ---- words, settings
@@ -539,20 +538,15 @@ public final class PosterFitter {
         }
     }
 
-    /** The spans of the bands. They are looked for once as long as the canvas stays. */
+    /** The spans of the bands of one canvas. They are looked for once as long as it stays as it is. */
     private static final class Bands {
-        private final Canvas canvas;
         private final int[] lengths = new int[ROWS * ROWS];
         private final int[] firsts = new int[ROWS * ROWS];
         /** For each number of rows, up to which change of the canvas the spans are known; 0 at first. */
         private final int[] changesKnown = new int[ROWS + 1];
 
-        Bands(Canvas canvas) {
-            this.canvas = canvas;
-        }
-
         /** Finds the spans of all bands with so many rows, 1 to 36; must be called before they are asked for. */
-        void learn(int rows) {
+        void learn(Canvas canvas, int rows) {
             if (changesKnown[rows] == canvas.changes) {
                 return;
             }
@@ -654,7 +648,7 @@ public final class PosterFitter {
 
     /** Tries the layouts for a base in the lexicographic order of the numbers of words of their lines. */
     private static final class Search {
-        private final Bands bands;
+        final Bands bands = new Bands();
         private final Measures measures = new Measures();
         private int top, leading, alignment, limit;
         /** For each word and row, the least cost of the lines from there on if chains did not matter. */
@@ -674,10 +668,6 @@ public final class PosterFitter {
         private final int[] bestFirsts = new int[MAX_WORDS + 1];
         private int bestLines, bestCost;
 
-        Search(Bands bands) {
-            this.bands = bands;
-        }
-
         /** Must be called before each search; there is no layout, and nothing to search, if it is false. */
         boolean prepare(State state, int base, int step, int chainLimit) {
             if (!measures.measure(state, base, step)) {
@@ -688,7 +678,7 @@ public final class PosterFitter {
             alignment = state.settings[ALIGNMENT];
             limit = chainLimit;
             for (int i = 0; i < measures.wordCount; i++) {
-                bands.learn(measures.sizes[i]);
+                bands.learn(state.canvas, measures.sizes[i]);
             }
             findLeastCosts();
             return true;

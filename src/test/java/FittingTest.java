@@ -8,6 +8,7 @@ public final class FittingTest {
         ties();
         marks();
         leading();
+        fourteenLines();
         heights();
         leastSizes();
         chains();
@@ -115,6 +116,22 @@ public final class FittingTest {
         Check.due("only the last row", low.cost(2), -1);
         low.setWord(1, 12, 1, true);
         Check.due("no row below", low.cost(1), -1);
+    }
+
+    private static void fourteenLines() {
+        PosterFitter x = Check.poster(3, 36);
+        Check.words(x, 3, 3, 3, 3, 3, 3, 3, 3, 3, 3, 3, 3, 3, 2);
+        best("fourteen lines", x, 1, 1, 11111111111111L);
+        x.setLines(22, 0, 0, 9);
+        best("down to the last row", x, 1, 1, 11111111111111L);
+        Check.due("allowed(1)", x.allowed(1), 1);
+        x.setLines(23, 0, 0, 9);
+        Check.due("the last line is below the canvas", x.cost(1), -1);
+        Check.due("the last line is below the canvas", x.allowed(1), 0);
+        Check.due("the last line is below the canvas", x.fit(), -1);
+        x.setWord(13, 1, 1, false);
+        x.setWord(12, 1, 1, false);
+        best("two words in the last row", x, 1, 0, 1111111111112L);
     }
 
     private static void heights() {
