@@ -184,7 +184,7 @@ public final class PosterFitter {
         if (!isIn(base, 1, MAX_BASE)) {
             return BAD_VALUE;
         }
-        return bestCost(base);
+        return search.findBest(state, base);
     }
 
     public int fit() {
@@ -195,8 +195,7 @@ public final class PosterFitter {
         if (!isIn(base, 1, MAX_BASE)) {
             return BAD_VALUE;
         }
-        boolean ready = search.prepare(state, base, state.settings[STEP], state.settings[LIMIT]);
-        return ready ? search.countLayouts() : 0;
+        return search.countLayouts(state, base);
     }
 
     public int take(int base) {
@@ -205,7 +204,7 @@ public final class PosterFitter {
         }
         remember();
         int taken = base == 0 ? greatestBase(state.settings[LIMIT]) : base;
-        int cost = taken == NONE ? NONE : bestCost(taken);
+        int cost = taken == NONE ? NONE : search.findBest(state, taken);
         if (cost != NONE) {
             state.present = search.describeBest(taken);
         }
@@ -217,7 +216,7 @@ public final class PosterFitter {
             return BAD_VALUE;
         }
         for (int step = MAX_STEP; step >= 0; step--) {
-            if (hasLayout(base, step, state.settings[LIMIT])) {
+            if (search.hasLayout(state, base, step, state.settings[LIMIT])) {
                 return step;
             }
         }
@@ -232,7 +231,7 @@ public final class PosterFitter {
         // A tighter limit allows no layout that a looser one refuses, so that no greater base can
         // come up: the fit stays just if this base keeps a layout.
         for (int limit = 1; limit < MAX_LIMIT; limit++) {
-            if (hasLayout(base, state.settings[STEP], limit)) {
+            if (search.hasLayout(state, base, state.settings[STEP], limit)) {
                 return limit;
             }
         }
@@ -381,19 +380,10 @@ public final class PosterFitter {
         recorded = MAX_HISTORY - 1;
     }
 
-    private int bestCost(int base) {
-        boolean ready = search.prepare(state, base, state.settings[STEP], state.settings[LIMIT]);
-        return ready ? search.findBest() : NONE;
-    }
-
-    private boolean hasLayout(int base, int step, int limit) {
-        return search.prepare(state, base, step, limit) && search.hasLayout();
-    }
-
     /** The fit with a chain limit. */
     private int greatestBase(int limit) {
         for (int base = MAX_BASE; base >= 1; base--) {
-            if (hasLayout(base, state.settings[STEP], limit)) {
+            if (search.hasLayout(state, base, state.settings[STEP], limit)) {
                 return base;
             }
         }
@@ -668,8 +658,33 @@ public final class PosterFitter {
         private final int[] bestFirsts = new int[MAX_WORDS + 1];
         private int bestLines, bestCost;
 
-        /** Must be called before each search; there is no layout, and nothing to search, if it is false. */
-        boolean prepare(State state, int base, int step, int chainLimit) {
+        boolean hasLayout(State state, int base, int step, int chainLimit) {
+            if (!prepare(state, base, step, chainLimit)) {
+                return false;
+            }
+            run(1, false);
+            return found > 0;
+        }
+
+        int countLayouts(State state, int base) {
+            if (!prepare(state, base, state.settings[STEP], state.settings[LIMIT])) {
+                return 0;
+            }
+            run(Integer.MAX_VALUE, false);
+            return found;
+        }
+
+        /** Returns the cost of the best layout, or NONE. */
+        int findBest(State state, int base) {
+            if (!prepare(state, base, state.settings[STEP], state.settings[LIMIT])) {
+                return NONE;
+            }
+            run(Integer.MAX_VALUE, true);
+            return found > 0 ? bestCost : NONE;
+        }
+
+        /** Returns whether there is anything to search: words, and none too small for its weight. */
+        private boolean prepare(State state, int base, int step, int chainLimit) {
             if (!measures.measure(state, base, step)) {
                 return false;
             }
@@ -682,22 +697,6 @@ public final class PosterFitter {
             }
             findLeastCosts();
             return true;
-        }
-
-        boolean hasLayout() {
-            run(1, false);
-            return found > 0;
-        }
-
-        int countLayouts() {
-            run(Integer.MAX_VALUE, false);
-            return found;
-        }
-
-        /** Returns the cost of the best layout, or NONE. */
-        int findBest() {
-            run(Integer.MAX_VALUE, true);
-            return found > 0 ? bestCost : NONE;
         }
 
         private void run(int layoutsWanted, boolean cheaper) {
