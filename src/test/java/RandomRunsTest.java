@@ -3,6 +3,8 @@ import java.util.Random;
 /** All promises: runs of up to 512 calls with many kinds of arguments, each answer compared with the model's. */
 public final class RandomRunsTest {
     private static final String SIGNS = "abcXYZ  !!//";
+    /** The document's limit for an object's calls, and how many of them a step of a run makes at most. */
+    private static final int MOST_CALLS = 512, CALLS_OF_A_STEP = 12;
 
     private final Random random;
     private final PosterFitter x = new PosterFitter();
@@ -10,6 +12,7 @@ public final class RandomRunsTest {
     private final String name;
     private final StringBuilder calls = new StringBuilder();
     private boolean failed = false;
+    private int made = 0;
     /** What the run is inclined to: at most so many words, with at most so many letters. */
     private final int words, letters;
 
@@ -24,13 +27,14 @@ public final class RandomRunsTest {
         int runs = args.length > 0 ? Integer.parseInt(args[0]) : 250;
         int from = args.length > 1 ? Integer.parseInt(args[1]) : 1;
         for (int seed = from; seed < from + runs; seed++) {
-            new RandomRunsTest(seed).run(120);
+            new RandomRunsTest(seed).run(seed % 10 == 0 ? MOST_CALLS : 150);
             new RandomRunsTest(seed).fits();
         }
         Check.end();
     }
 
     private void same(String call, long got, long want) {
+        made++;
         calls.append(call).append(" -> ").append(got).append('\n');
         Check.due(name + ": " + call, got, want);
         if (got != want && !failed) {
@@ -51,9 +55,10 @@ public final class RandomRunsTest {
         return a + random.nextInt(Math.max(1, b - a + 1));
     }
 
-    private void run(int length) {
+    /** The last one of so many calls is digest(). */
+    private void run(int most) {
         prepare();
-        for (int i = 0; i < length && !failed; i++) {
+        for (int i = 0; made < most - CALLS_OF_A_STEP && !failed; i++) {
             int r = random.nextInt(100);
             if (r < 14) {
                 shapes();
@@ -71,6 +76,9 @@ public final class RandomRunsTest {
             if (i % 10 == 0) {
                 same("digest()", x.digest(), model.digest());
             }
+        }
+        while (made < most - 1) {
+            same("count(10)", x.count(10), model.count(10));
         }
         same("digest()", x.digest(), model.digest());
     }
@@ -147,7 +155,7 @@ public final class RandomRunsTest {
     private void settings() {
         switch (random.nextInt(14)) {
             case 0: case 1:
-                if (x.count(1) <= words) {
+                if (model.count(1) <= words) {
                     addWord(some(1, letters), some(1, 3));
                 }
                 break;

@@ -12,19 +12,6 @@ public final class ShapesTest {
         Check.end();
     }
 
-    /** The rows as texts, a sign for each of the first columns. */
-    private static void looks(String what, PosterFitter x, String... rows) {
-        int free = 0;
-        for (int y = 0; y < rows.length; y++) {
-            for (int c = 0; c < rows[y].length(); c++) {
-                int want = rows[y].charAt(c) == '#' ? 1 : 0;
-                free += want;
-                Check.due(what + ": isFree(" + c + ", " + y + ")", x.isFree(c, y), want);
-            }
-        }
-        Check.due(what + ": count(10)", x.count(10), free);
-    }
-
     private static PosterFitter with(int kind, int x1, int y1, int x2, int y2) {
         PosterFitter x = new PosterFitter();
         Check.due("addShape of kind " + kind, x.addShape(kind, x1, y1, x2, y2), 0);
@@ -32,24 +19,24 @@ public final class ShapesTest {
     }
 
     private static void kinds() {
-        looks("rectangle", with(0, 1, 1, 3, 2), ".....", ".###.", ".###.", ".....");
-        looks("diamond", with(1, 0, 0, 4, 4), "..#..", ".###.", "#####", ".###.", "..#..");
-        looks("flat diamond", with(1, 0, 0, 5, 1), ".####.", ".####.");
-        looks("moved diamond", with(1, 2, 1, 6, 3), ".........", "....#....", "..#####..", "....#....");
-        looks("ellipse", with(2, 0, 0, 4, 4), ".###.", "#####", "#####", "#####", ".###.");
-        looks("flat ellipse", with(2, 1, 0, 6, 2), "..####..", ".######.", "..####..");
-        looks("triangle", with(3, 0, 0, 4, 4), "..#..", ".###.", ".###.", "#####", "#####");
-        looks("moved triangle", with(3, 1, 1, 7, 3), ".........", "...###...", "..#####..", ".#######.");
+        Check.looks("rectangle", with(0, 1, 1, 3, 2), ".....", ".###.", ".###.", ".....");
+        Check.looks("diamond", with(1, 0, 0, 4, 4), "..#..", ".###.", "#####", ".###.", "..#..");
+        Check.looks("flat diamond", with(1, 0, 0, 5, 1), ".####.", ".####.");
+        Check.looks("moved diamond", with(1, 2, 1, 6, 3), ".........", "....#....", "..#####..", "....#....");
+        Check.looks("ellipse", with(2, 0, 0, 4, 4), ".###.", "#####", "#####", "#####", ".###.");
+        Check.looks("flat ellipse", with(2, 1, 0, 6, 2), "..####..", ".######.", "..####..");
+        Check.looks("triangle", with(3, 0, 0, 4, 4), "..#..", ".###.", ".###.", "#####", "#####");
+        Check.looks("moved triangle", with(3, 1, 1, 7, 3), ".........", "...###...", "..#####..", ".#######.");
         for (int kind = 0; kind < 4; kind++) {
-            looks("one cell of kind " + kind, with(kind, 2, 2, 2, 2), "....", "....", "..#.", "....");
+            Check.looks("one cell of kind " + kind, with(kind, 2, 2, 2, 2), "....", "....", "..#.", "....");
         }
         PosterFitter nested = with(0, 0, 0, 6, 4);
         nested.addShape(0, 1, 1, 5, 3);
         nested.addShape(0, 3, 2, 3, 2);
-        looks("nested", nested, "#######", "#.....#", "#..#..#", "#.....#", "#######");
+        Check.looks("nested", nested, "#######", "#.....#", "#..#..#", "#.....#", "#######");
         PosterFitter crossed = with(0, 0, 0, 2, 0);
         crossed.addShape(0, 2, 0, 4, 0);
-        looks("crossed", crossed, "##.##");
+        Check.looks("crossed", crossed, "##.##");
     }
 
     private static void addShape() {
@@ -78,7 +65,7 @@ public final class ShapesTest {
     private static void moveShape() {
         PosterFitter x = with(0, 10, 10, 12, 11);
         Check.due("moveShape(0, -10, -10)", x.moveShape(0, -10, -10), 6);
-        looks("moved", x, "###.", "###.", "....");
+        Check.looks("moved", x, "###.", "###.", "....");
         Check.due("moveShape(0, 45, 34)", x.moveShape(0, 45, 34), 6);
         Check.due("moved to the corner", x.isFree(47, 35) + x.isFree(45, 34), 2);
         Check.due("moveShape(0, 1, 0)", x.moveShape(0, 1, 0), -3);
@@ -111,18 +98,18 @@ public final class ShapesTest {
         Check.due("removeShape(-1)", x.removeShape(-1), -2);
         Check.due("removeShape(3)", x.removeShape(3), -2);
         Check.due("removeShape(1)", x.removeShape(1), 2);
-        looks("one removed", x, "###..####");
+        Check.looks("one removed", x, "###..####");
         Check.due("the number is lower", x.moveShape(1, 1, 0), 7);
-        looks("moved by its new number", x, "###...####");
+        Check.looks("moved by its new number", x, "###...####");
         Check.due("removeShape(0)", x.removeShape(0), 1);
-        looks("the first removed", x, "......####");
+        Check.looks("the first removed", x, "......####");
         Check.due("removeShape(0)", x.removeShape(0), 0);
         Check.due("count(10)", x.count(10), 0);
         Check.due("removeShape(0) of none", x.removeShape(0), -2);
         Check.due("removeShape is recorded", x.undo(), 3);
-        looks("removeShape undone", x, "......####");
+        Check.looks("removeShape undone", x, "......####");
         x.undo();
-        looks("removeShape undone twice", x, "###...####");
+        Check.looks("removeShape undone twice", x, "###...####");
         Check.due("moveShape after undo", x.moveShape(0, 1, 0), 7);
     }
 

@@ -13,12 +13,6 @@ public final class WordsTest {
         Check.end();
     }
 
-    private static void isWord(PosterFitter x, int word, int letters, int weight, int mark) {
-        Check.due("word(" + word + ", 0)", x.word(word, 0), letters);
-        Check.due("word(" + word + ", 1)", x.word(word, 1), weight);
-        Check.due("word(" + word + ", 2)", x.word(word, 2), mark);
-    }
-
     private static void addWord() {
         PosterFitter x = new PosterFitter();
         int[][] bad = {{0, 1}, {13, 1}, {-1, 1}, {1, 0}, {1, 4}, {1, -1}, {MIN, MAX}, {MAX, MIN}};
@@ -30,7 +24,7 @@ public final class WordsTest {
             Check.due("addWord " + i, x.addWord(i % 12 + 1, i % 3 + 1), i);
         }
         for (int i = 0; i < 14; i++) {
-            isWord(x, i, i % 12 + 1, i % 3 + 1, 0);
+            Check.word(x, i, i % 12 + 1, i % 3 + 1, 0);
         }
         Check.due("addWord to 14", x.addWord(1, 1), -5);
         Check.due("bad addWord to 14", x.addWord(1, 4), -3);
@@ -44,7 +38,7 @@ public final class WordsTest {
         x.setWord(0, 5, 1, true);
         x.clearWords();
         x.addWord(4, 2);
-        isWord(x, 0, 4, 2, 0);
+        Check.word(x, 0, 4, 2, 0);
     }
 
     private static void setWord() {
@@ -53,12 +47,12 @@ public final class WordsTest {
         x.addWord(3, 2);
         x.addWord(7, 1);
         Check.due("setWord(1, ..)", x.setWord(1, 12, 3, true), 7);
-        isWord(x, 0, 3, 2, 0);
-        isWord(x, 1, 12, 3, 1);
+        Check.word(x, 0, 3, 2, 0);
+        Check.word(x, 1, 12, 3, 1);
         Check.due("setWord(0, ..)", x.setWord(0, 1, 1, true), 3);
-        isWord(x, 0, 1, 1, 1);
+        Check.word(x, 0, 1, 1, 1);
         Check.due("setWord(1, ..) again", x.setWord(1, 12, 3, false), 12);
-        isWord(x, 1, 12, 3, 0);
+        Check.word(x, 1, 12, 3, 0);
         Check.due("setWord(2, ..)", x.setWord(2, 1, 1, true), -2);
         Check.due("setWord(-1, 0, 0)", x.setWord(-1, 0, 0, true), -2);
         Check.due("setWord(MIN, ..)", x.setWord(MIN, 1, 1, true), -2);
@@ -66,11 +60,11 @@ public final class WordsTest {
         Check.due("setWord(0, 13, 1)", x.setWord(0, 13, 1, true), -3);
         Check.due("setWord(0, 1, 0)", x.setWord(0, 1, 0, true), -3);
         Check.due("setWord(0, 1, 4)", x.setWord(0, 1, 4, true), -3);
-        isWord(x, 0, 1, 1, 1);
+        Check.word(x, 0, 1, 1, 1);
         Check.due("setWord is recorded", x.undo(), 3);
-        isWord(x, 1, 12, 3, 1);
+        Check.word(x, 1, 12, 3, 1);
         x.undo();
-        isWord(x, 0, 3, 2, 0);
+        Check.word(x, 0, 3, 2, 0);
     }
 
     private static void clearWords() {
@@ -83,45 +77,39 @@ public final class WordsTest {
         Check.due("count(1)", x.count(1), 0);
         Check.due("word(0, 0)", x.word(0, 0), -2);
         Check.due("undo()", x.undo(), 2);
-        isWord(x, 1, 7, 1, 0);
-    }
-
-    private static void counts(PosterFitter x, int from, int... want) {
-        for (int i = 0; i < want.length; i++) {
-            Check.due("count(" + (from + i) + ")", x.count(from + i), want[i]);
-        }
+        Check.word(x, 1, 7, 1, 0);
     }
 
     private static void setSizes() {
         PosterFitter x = new PosterFitter();
         Check.due("setSizes(4, 20, 1, 2)", x.setSizes(4, 20, 1, 2), 1);
-        counts(x, 2, 4, 20, 1, 2, 0, 1, 1, 9);
+        Check.counts(x, 2, 4, 20, 1, 2, 0, 1, 1, 9);
         Check.due("setSizes(0, 1, 20, 20)", x.setSizes(0, 1, 20, 20), 4);
-        counts(x, 2, 0, 1, 20, 20, 0, 1, 1, 9);
+        Check.counts(x, 2, 0, 1, 20, 20, 0, 1, 1, 9);
         int[][] bad = {{-1, 1, 1, 1}, {5, 1, 1, 1}, {1, 0, 1, 1}, {1, 21, 1, 1}, {1, 1, 0, 1}, {1, 1, 21, 1},
             {1, 1, 1, 0}, {1, 1, 1, 21}, {MIN, MAX, MIN, MAX}};
         for (int[] b : bad) {
             Check.due("setSizes" + java.util.Arrays.toString(b), x.setSizes(b[0], b[1], b[2], b[3]), -3);
         }
-        counts(x, 2, 0, 1, 20, 20);
+        Check.counts(x, 2, 0, 1, 20, 20);
         Check.due("setSizes is recorded", x.undo(), 1);
-        counts(x, 2, 4, 20, 1, 2);
+        Check.counts(x, 2, 4, 20, 1, 2);
     }
 
     private static void setLines() {
         PosterFitter x = new PosterFitter();
         Check.due("setLines(35, 5, 2, 1)", x.setLines(35, 5, 2, 1), 0);
-        counts(x, 2, 1, 1, 1, 1, 35, 5, 2, 1);
+        Check.counts(x, 2, 1, 1, 1, 1, 35, 5, 2, 1);
         Check.due("setLines(7, 0, 0, 9)", x.setLines(7, 0, 0, 9), 35);
-        counts(x, 2, 1, 1, 1, 1, 7, 0, 0, 9);
+        Check.counts(x, 2, 1, 1, 1, 1, 7, 0, 0, 9);
         int[][] bad = {{-1, 0, 0, 1}, {36, 0, 0, 1}, {0, -1, 0, 1}, {0, 6, 0, 1}, {0, 0, -1, 1}, {0, 0, 3, 1},
             {0, 0, 0, 0}, {0, 0, 0, 10}, {MAX, MIN, MAX, MIN}};
         for (int[] b : bad) {
             Check.due("setLines" + java.util.Arrays.toString(b), x.setLines(b[0], b[1], b[2], b[3]), -3);
         }
-        counts(x, 6, 7, 0, 0, 9);
+        Check.counts(x, 6, 7, 0, 0, 9);
         Check.due("setLines is recorded", x.undo(), 1);
-        counts(x, 6, 35, 5, 2, 1);
+        Check.counts(x, 6, 35, 5, 2, 1);
     }
 
     private static void count() {
@@ -131,24 +119,24 @@ public final class WordsTest {
         x.addWord(1, 1);
         x.setSizes(2, 3, 4, 5);
         x.setLines(6, 2, 0, 8);
-        counts(x, 0, 2, 1, 2, 3, 4, 5, 6, 2, 0, 8, 19, 0);
+        Check.counts(x, 0, 2, 1, 2, 3, 4, 5, 6, 2, 0, 8, 19, 0);
         x.setSizes(0, 1, 1, 1);
         x.setLines(2, 0, 0, 8);
         x.take(1);
-        counts(x, 10, 19, 1);
+        Check.counts(x, 10, 19, 1);
         Check.due("count(-1)", x.count(-1), -3);
         Check.due("count(12)", x.count(12), -3);
         Check.due("count(MIN)", x.count(MIN), -3);
         Check.due("count(MAX)", x.count(MAX), -3);
         x.undo();
-        counts(x, 10, 19, 0);
+        Check.counts(x, 10, 19, 0);
     }
 
     private static void word() {
         PosterFitter x = new PosterFitter();
         Check.due("word(0, 9) of none", x.word(0, 9), -2);
         x.addWord(3, 2);
-        isWord(x, 0, 3, 2, 0);
+        Check.word(x, 0, 3, 2, 0);
         Check.due("word(0, -1)", x.word(0, -1), -3);
         Check.due("word(0, 3)", x.word(0, 3), -3);
         Check.due("word(1, 0)", x.word(1, 0), -2);
