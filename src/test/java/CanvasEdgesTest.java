@@ -22,7 +22,9 @@ public final class CanvasEdgesTest {
         sixShapes();
         moveShapeRanges();
         moveShapeToTheEdges();
+        freeCellsThen();
         removeShapeNumbers();
+        shapesLeft();
         noShapes();
         isFreeRanges();
         spanRanges();
@@ -329,6 +331,22 @@ public final class CanvasEdgesTest {
         Check.due("behind the last of six", last.moveShape(6, 1, 1), BAD_INDEX);
     }
 
+    private static void freeCellsThen() {
+        Check.sentence("Returns the number of free cells then");
+        PosterFitter x = with(0, 0, 0, 2, 1);
+        x.addShape(0, 45, 34, 47, 35);
+        Check.due("onto the other one", x.moveShape(0, 45, 34), 0);
+        Check.due("count(10)", x.count(10), 0);
+        Check.due("by nothing", x.moveShape(0, 0, 0), 0);
+        Check.due("half off the other one", x.moveShape(0, 0, -1), 6);
+        Check.due("off the other one", x.moveShape(1, -45, -34), 12);
+        PosterFitter hole = with(0, 0, 0, 47, 35);
+        hole.addShape(0, 0, 0, 0, 0);
+        Check.due("a hole that moves", hole.moveShape(1, 47, 35), 1727);
+        Check.due("where it was", hole.isFree(0, 0), 1);
+        Check.due("where it is", hole.isFree(47, 35), 0);
+    }
+
     private static void removeShapeNumbers() {
         Check.sentence("Removes a shape; those behind it get numbers that are lower by 1.");
         for (int bad : Check.outside(0, 5)) {
@@ -347,6 +365,20 @@ public final class CanvasEdgesTest {
             }
             Check.due("behind the last one", x.moveShape(5, 0, 0), BAD_INDEX);
         }
+    }
+
+    private static void shapesLeft() {
+        Check.sentence("Returns the number of shapes that are left; BAD_INDEX if there is no such shape.");
+        PosterFitter last = full();
+        PosterFitter first = full();
+        for (int left = 5; left >= 0; left--) {
+            Check.due("behind the last one", last.removeShape(left + 1), BAD_INDEX);
+            Check.due("the last one of " + (left + 1), last.removeShape(left), left);
+            Check.due("the first one of " + (left + 1), first.removeShape(0), left);
+            Check.due("count(0)", last.count(0) + first.count(0), 2 * left);
+        }
+        Check.due("no cell is free", last.count(10) + first.count(10), 0);
+        Check.due("the last one of none", last.removeShape(-1), BAD_INDEX);
     }
 
     private static void noShapes() {

@@ -25,7 +25,9 @@ public final class FittingEdgesTest {
         costs();
         lexicographicallyFirst();
         twoLayouts();
+        cheaperThanAnEarlierOne();
         chainsOfOtherLayouts();
+        noGapBeforeAFirstWord();
         narrowAbove();
         searchesInARow();
         noBestLayout();
@@ -491,6 +493,25 @@ public final class FittingEdgesTest {
         Check.due("the second one", lines(second), 21);
     }
 
+    /** What the lines behind the first one may cost at least must not be taken for more than it is. */
+    private static void cheaperThanAnEarlierOne() {
+        Check.sentence("The best layout for a base is the allowed one with the least cost");
+        PosterFitter x = Check.poster(4, 3);
+        Check.words(x, 1, 1, 2, 1, 1);
+        Check.due("allowed(1)", x.allowed(1), 3);
+        Check.due("the slacks 1, 2, 1 instead of 3, 0, 1", x.take(1), 6);
+        Check.due("lines", lines(x), 212);
+        PosterFitter steps = new PosterFitter();
+        steps.addShape(0, 0, 0, 7, 0);
+        steps.addShape(0, 0, 1, 6, 1);
+        steps.addShape(0, 0, 2, 1, 2);
+        steps.setLines(0, 0, 0, 1);
+        Check.words(steps, 2, 2, 2, 1);
+        Check.due("allowed(1)", steps.allowed(1), 4);
+        Check.due("the slacks 3, 5, 1 instead of 6, 0", steps.take(1), 35);
+        Check.due("lines", lines(steps), 211);
+    }
+
     /** Two pairs would cost less than all other lines, but are a chain of two. */
     private static void chainsOfOtherLayouts() {
         Check.sentence("A layout is allowed if no chain is longer than the chain limit");
@@ -504,6 +525,20 @@ public final class FittingEdgesTest {
         Check.placed(x, 1, 0, 1, 1, 1, 0);
         Check.placed(x, 2, 0, 1, 1, 2, 0);
         Check.placed(x, 3, 2, 1, 1, 2, 1);
+    }
+
+    /** The lines end at the right edge; only those of two pairs would have gaps in the same column. */
+    private static void noGapBeforeAFirstWord() {
+        Check.sentence("A gap of a line and a gap of the next line touch if they have a column in common.");
+        PosterFitter x = Check.poster(9, 3);
+        Check.words(x, 4, 3, 3, 3);
+        x.setLines(0, 0, 2, 1);
+        Check.due("allowed(1)", x.allowed(1), 3);
+        Check.due("take(1)", x.take(1), 65);
+        Check.due("lines", lines(x), 112);
+        x.setLines(0, 0, 2, 2);
+        Check.due("take(1), limit 2", x.take(1), 5);
+        Check.due("lines, limit 2", lines(x), 22);
     }
 
     private static void narrowAbove() {
