@@ -896,14 +896,13 @@ public final class PosterFitter {
         final int lineCount;
         final int wordCount;
         final int[] totals = new int[LAYOUT_PARTS];
-        final int[] lines;
-        final int[] words;
+        /** A line has a word at least, so that there are never more lines than words. */
+        final int[] lines = new int[MAX_WORDS * LINE_PARTS];
+        final int[] words = new int[MAX_WORDS * PLACED_PARTS];
 
         Layout(int lineCount, int wordCount) {
             this.lineCount = lineCount;
             this.wordCount = wordCount;
-            lines = new int[lineCount * LINE_PARTS];
-            words = new int[wordCount * PLACED_PARTS];
         }
 
         void putTotals(int base, int cost, int longestChain, int rowBelow) {

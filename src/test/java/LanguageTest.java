@@ -16,6 +16,7 @@ public final class LanguageTest {
         absent(code, "\\bstatic (?!final\\b)[\\w\\[\\]]+ \\w+( =|;)", "rule 5: static fields are final");
         absent(code, "\\bimport (?!java\\.util\\.(Arrays|ArrayList|List|Iterator);)", "rule 4");
         absent(code, "\\w+\\((\\s*\\w+(\\[\\])? \\w+,){7}", "rule 11: at most seven parameters");
+        absent(code, "\\bnew \\w+\\[(?![A-Z_0-9 *+]+\\])", "rule 7: a new row's length is made of constants, so that it is never below 0");
         absent(source, "[^\\n\\x20-\\x7e]", "only plain signs");
         methodsAreShort(code);
         Check.end();
